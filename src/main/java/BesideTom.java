@@ -21,7 +21,6 @@ public final class BesideTom {
   private final Rooms rooms;
   private final Trace trace;
   private final int[] plan = new int[PUPILS];
-  private int worth;
   private final long[][] tapes = new long[TAPES][MOST_ITEMS];
   private final int[] sorts = {NO_SORT, NO_SORT, NO_SORT, NO_SORT, NO_SORT, NO_SORT};
   private final int[] sizes = new int[TAPES];
@@ -162,15 +161,15 @@ public final class BesideTom {
 
   public int quietest(int what) {
     if (what != 0 && !isOfPupil(what)) return NONE;
-    beginsPlans();
-    arrange(0, 0, false);
+    plansFromNow();
+    int worth = arrange(asked, plan, 0, 0, false, Integer.MIN_VALUE);
     return what == 0 ? -worth : plan[what - 10];
   }
 
   public int wisest(int what) {
     if (what != 0 && !isOfPupil(what)) return NONE;
-    beginsPlans();
-    arrange(0, 0, true);
+    plansFromNow();
+    int worth = arrange(asked, plan, 0, 0, true, Integer.MIN_VALUE);
     return what == 0 ? worth : plan[what - 10];
   }
 
@@ -197,43 +196,44 @@ public final class BesideTom {
   public int few(int q) {
     if (!within(q, 0, MOST_NOISE)) return BAD;
     if (now.noise(0) <= q) return 0;
-    beginsPlans();
+    plansFromNow();
     for (int changes = 1; changes <= MOST_CHANGES; changes++) {
       // The same two changed twice sit as they sat, but the plan is new by it.
       if (changes == 2 && asked.many >= 2 && asked.noise(0) <= q) return changes;
-      if (calmsBy(changes, 1, q)) return changes;
+      if (calmsBy(asked, changes, 1, q)) return changes;
     }
     return MISSING;
   }
 
-  private void beginsPlans() {
+  private void plansFromNow() {
     asked.becomes(now);
     asked.wear = 0;
-    worth = Integer.MIN_VALUE;
   }
 
-  /** The plans come up in their order as rows, so that of several the first stays. */
-  private void arrange(int pupil, int taken, boolean wise) {
-    if (pupil >= asked.many || pupil >= PUPILS) {
-      int noise = asked.noise(0);
-      int value = wise ? asked.learnsOfAll(noise) : -noise;
-      if (value > worth) {
-        worth = value;
-        System.arraycopy(asked.desk, 0, plan, 0, PUPILS);
-      }
-      return;
+  /**
+   * Answers what the best plan is worth, none being worth more than so far, and keeps that plan.
+   * The plans come up in their order as rows, so that of several the first stays.
+   */
+  private static int arrange(Seating tried, int[] plan, int pupil, int taken, boolean wise, int soFar) {
+    if (pupil >= tried.many || pupil >= PUPILS) {
+      int noise = tried.noise(0);
+      int worth = wise ? tried.learnsOfAll(noise) : -noise;
+      if (worth > soFar) System.arraycopy(tried.desk, 0, plan, 0, PUPILS);
+      return Math.max(worth, soFar);
     }
+    int most = soFar;
     for (int desk = 0; desk < DESKS; desk++) {
       if (!bit(taken, desk)) {
-        asked.desk[pupil] = desk;
-        arrange(pupil + 1, taken | 1 << desk, wise);
+        tried.desk[pupil] = desk;
+        most = arrange(tried, plan, pupil + 1, taken | 1 << desk, wise, most);
       }
     }
+    return most;
   }
 
   private int change() {
     int least = now.noise(0), found = MISSING;
-    beginsPlans();
+    plansFromNow();
     for (int a = 0; a < asked.many; a++) {
       for (int b = a + 1; b < asked.many; b++) {
         asked.swaps(a, b);
@@ -267,13 +267,13 @@ public final class BesideTom {
   }
 
   /** With the greater number of the two rising from change to change, each plan so far off comes up just once. */
-  private boolean calmsBy(int changes, int from, int q) {
-    if (changes <= 0) return asked.noise(0) <= q;
-    for (int b = from; b < asked.many; b++) {
+  private static boolean calmsBy(Seating tried, int changes, int from, int q) {
+    if (changes <= 0) return tried.noise(0) <= q;
+    for (int b = from; b < tried.many; b++) {
       for (int a = 0; a < b; a++) {
-        asked.swaps(a, b);
-        boolean calm = calmsBy(changes - 1, b + 1, q);
-        asked.swaps(a, b);
+        tried.swaps(a, b);
+        boolean calm = calmsBy(tried, changes - 1, b + 1, q);
+        tried.swaps(a, b);
         if (calm) return true;
       }
     }
@@ -736,9 +736,7 @@ public final class BesideTom {
     int reads(int newRow, Seating seating, int newPupil, int newDesk) {
       begins(newRow, seating, newPupil, newDesk);
       if (row < 0 || row > MOST_ROOMS) return -1;
-      steps();
-      clause();
-      for (int i = 1; i < MOST_CLAUSES && sign == ';'; i++) {
+      for (int i = 0; i < MOST_CLAUSES && (i == 0 || sign == ';'); i++) {
         steps();
         clause();
       }
@@ -842,16 +840,22 @@ public final class BesideTom {
     }
 
     private boolean single(int depth) {
-      if (sign == '!' && depth < MOST_WITHIN) {
+      int within = depth;
+      boolean not = false;
+      for (; sign == '!' && within < MOST_WITHIN; within++) {
+        not = !not;
         steps();
-        return !single(depth + 1);
       }
-      if (sign == '(' && depth < MOST_WITHIN) {
+      if (sign == '(' && within < MOST_WITHIN) {
         steps();
-        boolean holds = either(depth + 1);
+        boolean holds = either(within + 1);
         expects(')');
-        return holds;
+        return holds != not;
       }
+      return test() != not;
+    }
+
+    private boolean test() {
       int value = letter();
       if (value < 0) {
         fails();

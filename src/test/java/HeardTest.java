@@ -164,6 +164,13 @@ public final class HeardTest {
     Due.is(BesideTom.NO, x.mean(-1), "23 part -1");
     Due.is(BesideTom.NO, new BesideTom().mean(0), "23 nobody");
     Due.is(BesideTom.NO, new BesideTom().mean(1), "23 nobody below the line");
+    Due.is(10, Due.of(0, 0).mean(0), "23 of one");
+    Due.is(1, Due.of(0, 0).mean(1), "23 of one, below the line");
+    BesideTom two = Due.of(0, 0, 0, 0);
+    two.pass(2);
+    Due.is(9, two.mean(0), "23 by noise 6");
+    two.pass(1);
+    Due.is(8, two.mean(0), "23 by noise 8");
     BesideTom six = Due.of(0, 0, 0, 0, 0, 0, 0, 0, 0, 0, 0, 0);
     for (int p = 3; p < 6; p++) six.away(p, true);
     Due.is(7, six.mean(0), "23 21 by six");

@@ -8,6 +8,8 @@ public final class PlansTest {
   public static void main(String[] args) {
     quietest();
     wisest();
+    byWearAndLineOfNow();
+    withCorks();
     bothOfNobody();
     seat();
     change();
@@ -79,6 +81,39 @@ public final class PlansTest {
     z.away(5, true);
     // NOISE is 30 or less with one of them away, wherever that one sits.
     Due.is(5 * 9, z.wisest(0), "15 who is away learns nothing");
+  }
+
+  /** One who is told so talks 9 more next week, but not now. */
+  private static void byWearAndLineOfNow() {
+    BesideTom x = Due.of(0, 0, 0, 0, 6, 0);
+    Due.room(x, "wear 1;cost 1");
+    x.line(2, 1, 9);
+    x.pass(4);
+    Due.is(24, x.told(4), "14 noise with wear 4, by wears 1");
+    Due.is(0, x.quietest(0), "14 all three apart");
+    int[] quiet = {0, 2, 4}, wise = {0, 4, 2};
+    for (int p = 0; p < 3; p++) Due.is(quiet[p], x.quietest(10 + p), "14 all three apart, desk of " + p);
+    Due.is(30, x.wisest(0), "15 all three apart, the third in front");
+    for (int p = 0; p < 3; p++) Due.is(wise[p], x.wisest(10 + p), "15 the third in front, desk of " + p);
+    Due.is(3, x.seat(0), "16 away from both");
+    Due.is(5, x.seat(2), "16 away from one of two");
+    Due.is(1, x.best(0), "17 by new wear");
+    Due.is(0, x.few(24), "18 it is so now");
+    Due.is(1, x.few(23), "18 a change is enough now");
+    Due.is(1, x.few(12), "18 a change is enough now, just so");
+    Due.is(-5, x.few(11), "18 no change is");
+    Due.is(1, x.best(1), "17 without the middle one");
+    Due.is(1, x.odds(0, 0), "22 without the middle one");
+    Due.is(3, x.odds(0, 1), "22 without the middle one, of three");
+  }
+
+  private static void withCorks() {
+    BesideTom x = Due.of(0, 0, 5, 0, 0, 0, 5, 0, 5, 0, 5, 0);
+    Due.is(4, x.told(4), "14 two who have two corks near each");
+    Due.is(4, x.quietest(0), "14 corks on all sides");
+    Due.is(0, x.quietest(10), "14 corks on all sides, the first desk");
+    Due.is(2, x.quietest(12), "14 corks on all sides, the first that is apart");
+    Due.is(4, x.on(2, 0), "14 corks are corks on other weeks");
   }
 
   private static void bothOfNobody() {

@@ -163,6 +163,11 @@ public final class PupilsTest {
     Due.room(x, "chat 99 p=0;cost 1");
     Due.is(0, x.of(0, 8), "3 learns 0 at least");
     Due.is(0, x.of(1, 8), "3 a cork learns 0 at least");
+    BesideTom y = Due.of(0, 0, 0, 0);
+    y.pass(2);
+    Due.is(9, y.of(0, 8), "3 learns by noise 6");
+    y.pass(1);
+    Due.is(8, y.of(0, 8), "3 learns by noise 8");
   }
 
   private static void ofMouth() {
@@ -206,6 +211,11 @@ public final class PupilsTest {
     Due.is(-1, x.move(0, 6), "4 no such desk");
     Due.is(-1, x.move(0, -1), "4 desk -1");
     Due.is(4, x.of(2, 2), "4 nothing changes by it");
+    BesideTom y = Due.of(0, 0, 0, 0);
+    Due.room(y, "wear 1");
+    y.pass(2);
+    Due.is(10, y.told(4), "4 noise by wear 2");
+    Due.is(6, y.move(0, 0), "4 noise by wear 0");
   }
 
   private static void away() {

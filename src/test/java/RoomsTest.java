@@ -118,6 +118,7 @@ public final class RoomsTest {
     faulty(3, "wea");
     faulty(3, "weak 1");
     faulty(3, "cos\0 1");
+    faulty(6, "wear 1\0");
   }
 
   private static void faultsOfDepthAndClauses() {
@@ -226,7 +227,15 @@ public final class RoomsTest {
     x.away(0, true);
     Due.is(28, x.told(5), "10 knows of all, of who is away too");
     Due.is(10, x.told(6), "10 learns of all but who is away");
-    int[] who = {0, 1, -5, -5, -5, -5};
+    x.away(0, false);
+    x.pass(1);
+    // WEAR is 2: a week on, NOISE would be 6.
+    Due.is(9 + 8, x.told(6), "10 learns by how all is now");
+    x.pupil(0, 0);
+    x.pass(1);
+    x.away(2, true);
+    Due.is(9 + 8, x.told(6), "10 learns of all, by wear 3: noise is 6");
+    int[] who = {0, 1, 2, -5, -5, -5};
     for (int d = 0; d < 6; d++) Due.is(who[d], x.told(10 + d), "10 who has desk " + d);
     Due.is(-1, x.told(-1), "10 what -1");
     Due.is(-1, x.told(7), "10 what 7");

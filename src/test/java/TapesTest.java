@@ -28,9 +28,9 @@ public final class TapesTest {
     Due.is(-14, x.tape(0, 0, -1), "35 n -1");
     Due.is(-14, x.tape(0, 4, Integer.MIN_VALUE), "35 n far below 0");
     Due.is(0, x.read(0, 59), "35 nothing changed");
-    x.item(0, 3, 7);
+    for (int i = 0; i < 60; i++) x.item(0, i, 7);
     Due.is(1, x.tape(0, 0, 60), "35 anew");
-    Due.is(0, x.read(0, 3), "35 all 0 again");
+    for (int i = 0; i < 60; i++) Due.is(0, x.read(0, i), "35 all 0 again");
     x.item(0, 3, 7);
     Due.is(1, x.tape(0, -1, 99), "35 nothing, n above 60");
     Due.is(-11, x.item(0, 0, 1), "35 it holds nothing");

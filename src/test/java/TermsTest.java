@@ -5,6 +5,7 @@ public final class TermsTest {
   public static void main(String[] args) {
     term();
     ends();
+    endsOfUnlike();
     endsBeyond();
     book();
     looked();
@@ -79,6 +80,16 @@ public final class TermsTest {
     x.term(0, 0);
     x.term(2, 1);
     endsAre(x, 6, 20, "from how all is");
+  }
+
+  private static void endsOfUnlike() {
+    BesideTom x = Due.of(1, 9, 0, 0, 5, 0);
+    endsAre(x, 12 + 4, 0, "nothing, with a cork");
+    x.term(3, 5);
+    endsAre(x, 10 + 1, 0, "pupil 0 moves beside the cork");
+    BesideTom one = Due.of(4, 9);
+    Due.is(1, one.term(3, 0), "24 3 with one");
+    endsAre(one, 3, 0, "a move of one alone");
   }
 
   private static void endsBeyond() {
@@ -266,6 +277,12 @@ public final class TermsTest {
     x.pupil(1, 2);
     Due.is(1, x.of(3, 0), "30 another kind in the same place");
     Due.is(3, x.of(3, 10), "30 another mouth");
+    BesideTom last = Due.of(0, 0, 0, 0, 0, 0, 0, 0, 0, 0, 6, 0);
+    last.line(5, 0, 7);
+    last.image();
+    last.line(5, 0, 1);
+    last.undo();
+    Due.is(7, last.line(5, 0, 2), "30 the line of the last");
     BesideTom y = Due.of(5, 0);
     y.undo();
     y.image();
