@@ -7,6 +7,8 @@ public final class BesideTom {
   private static final int DESKS = 6, PUPILS = 6, COLUMNS = 3, PARTS = 4;
   private static final int CORK = 5, TOLD = 6, MOST_KIND = 6, MOST_V = 9;
   private static final int MOST_KNOWN = 9999, MOST_WEEK = 9999, MOST_WEAR = 99, MOST_NOISE = 999;
+  /** Above all that a room can bring forth. */
+  private static final int BOUNDLESS = 1000000000;
   private static final int MOST_WEEKS = 60, MOST_HEARD_WEEKS = 20, MOST_CHANGES = 3;
   private static final int WEEK_GOES = 0, GOES_AWAY = 1, COMES_BACK = 2, FIRST_MOVES = 3;
   private static final int TAPES = 6, MOST_ITEMS = 60;
@@ -145,7 +147,7 @@ public final class BesideTom {
     if (!within(n, 0, MOST_WEEKS)) return BAD;
     if (what == 0) return now.noise(n);
     asked.becomes(now);
-    for (int i = 0; i < n; i++) asked.weekGoes(Integer.MAX_VALUE);
+    for (int i = 0; i < n; i++) asked.weekGoes(BOUNDLESS);
     return what == 1 ? asked.knowsOfAll() : asked.knows[what - 10];
   }
 
@@ -162,20 +164,20 @@ public final class BesideTom {
   public int quietest(int what) {
     if (what != 0 && !isOfPupil(what)) return NONE;
     plansFromNow();
-    int worth = arrange(asked, plan, 0, 0, false, Integer.MIN_VALUE);
+    int worth = arrange(asked, plan, 0, 0, false, -BOUNDLESS);
     return what == 0 ? -worth : plan[what - 10];
   }
 
   public int wisest(int what) {
     if (what != 0 && !isOfPupil(what)) return NONE;
     plansFromNow();
-    int worth = arrange(asked, plan, 0, 0, true, Integer.MIN_VALUE);
+    int worth = arrange(asked, plan, 0, 0, true, -BOUNDLESS);
     return what == 0 ? worth : plan[what - 10];
   }
 
   public int seat(int pupil) {
     if (!now.has(pupil)) return NONE;
-    int least = Integer.MAX_VALUE, first = 0;
+    int least = BOUNDLESS, first = 0;
     for (int desk = 0; desk < DESKS; desk++) {
       asked.becomes(now);
       asked.moves(pupil, desk);
@@ -249,7 +251,7 @@ public final class BesideTom {
   }
 
   private int worst() {
-    int least = Integer.MAX_VALUE, first = MISSING;
+    int least = BOUNDLESS, first = MISSING;
     for (int p = 0; p < now.many; p++) {
       without(p);
       int noise = asked.noise(0);
@@ -353,7 +355,7 @@ public final class BesideTom {
     for (int i = 0; i < now.term.many; i++) {
       int n = now.term.second[i];
       switch (now.term.first[i]) {
-        case WEEK_GOES: asked.weekGoes(Integer.MAX_VALUE); break;
+        case WEEK_GOES: asked.weekGoes(BOUNDLESS); break;
         case GOES_AWAY: asked.setAway(n, true); break;
         case COMES_BACK: asked.setAway(n, false); break;
         default: asked.moves(0, n);
