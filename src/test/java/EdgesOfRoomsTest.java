@@ -147,6 +147,20 @@ public final class EdgesOfRoomsTest extends Edge {
       x.pupil(0, 0);
       is(5, x.of(0, 10));
     });
+    edge(9, "without one there are no CLAUSES: THE TEXT alone is none as yet", () -> {
+      BesideTom x = plain(1);
+      feed(x, "chat 9 p<9;wear 9;cost 9");
+      x.pupil(0, 0);
+      is(3, x.of(0, 10));
+      is(3, x.of(1, 10));
+      is(3, x.told(2));
+      is(4, x.told(3));
+      is(0, x.room());
+      feed(x, "chat 1 p<9");
+      x.pupil(0, 0);
+      is(12, x.of(0, 10));
+      is(12, x.of(2, 10));
+    });
     edge(9, "The newest ROOM holds", () -> {
       BesideTom x = plain(1);
       room(x, "wear 7;cost 8;chat 2 p=0");
@@ -426,6 +440,13 @@ public final class EdgesOfRoomsTest extends Edge {
     edge(9, "T|E and F&T: one behind the other", () -> {
       faulty(11, "chat 1 p=0&|p=0");
       faulty(11, "chat 1 p=0|&p=0");
+    });
+    edge(9, "FAULT: behind what decides already, or does not count", () -> {
+      faulty(11, "chat 1 p=0|q=0");
+      faulty(11, "chat 1 p=1&q=0");
+      faulty(13, "chat 1 !(p=0|q=0)");
+      faulty(18, "chat 1 p=1;chat 1 q=0");
+      faulty(19, "chat 0 p=0;hush 0 (");
     });
     edge(9, "!F: nothing behind", () -> {
       faulty(8, "chat 1 !");

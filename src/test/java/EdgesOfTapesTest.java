@@ -232,6 +232,28 @@ public final class EdgesOfTapesTest extends Edge {
       is(FULL, x.term(0, 0));
       is(FULL, x.book(0, 0));
     });
+    edge(30, "HEARD, the TERM, the BOOK: as many others in their place", () -> {
+      BesideTom x = plain(2);
+      x.hear(6, 0);
+      x.term(3, 5);
+      x.term(0, 0);
+      x.book(0, 0);
+      x.book(1, 5);
+      x.image();
+      x.hear(-1, 0);
+      x.hear(0, 3);
+      x.term(-1, 0);
+      x.term(0, 0);
+      x.term(1, 0);
+      x.book(-1, 0);
+      x.book(1, 1);
+      x.book(0, 0);
+      x.undo();
+      is(0b010111, x.where(0));
+      is(0, x.ends(0));
+      is(20, x.ends(1));
+      is(1, x.looked());
+    });
     edge(30, "empty rows are as they were", () -> {
       BesideTom x = plain(1);
       x.image();
