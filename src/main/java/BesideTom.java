@@ -832,13 +832,13 @@ public final class BesideTom {
         steps();
         boolean next = single(depth);
         if (or) {
-          any |= all;
+          any = any || all;
           all = next;
         } else {
-          all &= next;
+          all = all && next;
         }
       }
-      return any | all;
+      return any || all;
     }
 
     private boolean single(int depth) {
